@@ -5,7 +5,8 @@ import java.util.function.Consumer;
 import java.util.function.Supplier;
 
 // The document sentence by sentence: each one that names a boundary case has a test of its own here,
-// which bears the sentence's words. The answers that are due were worked out by hand from those words.
+// which bears the sentence's words. The answers that are due were worked out from those words; only
+// where a call must change nothing is the object compared with a twin that was not called.
 public final class EnergyGameSentences {
     private static final int LEAST = Integer.MIN_VALUE;
     private static final int MOST = Integer.MAX_VALUE;
